@@ -515,15 +515,12 @@ public final class CrystalCuts {
 
         private void becomeBox() {
             count = 0;
-            for (int side = 1; side >= -1; side -= 2) {
-                put(side, 0, 0, BOX_OFF);
-            }
-            for (int side = 1; side >= -1; side -= 2) {
-                put(0, side, 0, BOX_OFF);
-            }
-            for (int side = 1; side >= -1; side -= 2) {
-                put(0, 0, side, BOX_OFF);
-            }
+            put(1, 0, 0, BOX_OFF);
+            put(-1, 0, 0, BOX_OFF);
+            put(0, 1, 0, BOX_OFF);
+            put(0, -1, 0, BOX_OFF);
+            put(0, 0, 1, BOX_OFF);
+            put(0, 0, -1, BOX_OFF);
         }
 
         private void put(int newH, int newK, int newL, int newOff) {

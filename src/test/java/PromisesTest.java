@@ -258,6 +258,10 @@ public final class PromisesTest {
                 C.due("of(" + (6 + i) + ", " + what + ")", x.of(6 + i, what), due[i][what - 3]);
             }
         }
+        x.plane(1, 1, 1, 29);
+        C.due("it SHOWS no more", x.of(7, 4), 0);
+        C.due("nor has it EDGES", x.of(7, 6), 0);
+        C.due("but the new one SHOWS", x.of(9, 4), 1);
         // A plane through one edge of the box, one through one corner: HIDDEN, with CORNERS ON it.
         CrystalCuts y = new CrystalCuts();
         y.plane(1, 1, 0, 40);
@@ -324,6 +328,30 @@ public final class PromisesTest {
             C.due("rhombic, all(" + what + ")", y.all(what), rhombic[what]);
         }
         refuses(x, -2, 0, v -> x.all(v), LEAST, -1, 7, MOST);
+        mostCorners();
+    }
+
+    /** A truncated cuboctahedron with six of its 48 corners cut off: 32 planes that all SHOW, 60 corners. */
+    private static void mostCorners() {
+        CrystalCuts x = new CrystalCuts();
+        for (int p = 0; p < 6; p++) {
+            x.off(p, 10);
+        }
+        x.family(63, 1, 1, 0, 16);
+        x.family(63, 1, 1, 1, 18);
+        int[] whole = {26, 26, 0, 48, 72, 8, 3};
+        for (int what = 0; what <= 6; what++) {
+            C.due("48 corners, all(" + what + ")", x.all(what), whole[what]);
+        }
+        C.due("family(48, 3, 2, 1, 43)", x.family(48, 3, 2, 1, 43), 6);
+        int[] most = {32, 32, 0, 60, 90, 12, 3};
+        for (int what = 0; what <= 6; what++) {
+            C.due("60 corners, all(" + what + ")", x.all(what), most[what]);
+        }
+        C.due("the last corner", x.corner(59, 0), 1);
+        C.due("no corner more", x.corner(60, 0), -3);
+        C.due("the last plane, in bits", x.edge(31, 0, 4), 2);
+        C.due("turned", x.symmetry(), 48);
     }
 
     private static void p11Corner() {
@@ -402,6 +430,14 @@ public final class PromisesTest {
             C.due("edge(0, 6, " + what + ")", x.edge(0, 6, what), slanted[what]);
             C.due("edge(6, 0, " + what + ")", x.edge(6, 0, what), slanted[what]);
         }
+        CrystalCuts y = new CrystalCuts();
+        y.plane(1, 1, 2, 40);
+        y.plane(1, 2, 1, 40);
+        // (-3, 1, 1), told as (3, -1, -1): from (-20, 20, 20) to (20, 20/3, 20/3).
+        int[] downward = {1, 3, -1, -1, 2};
+        for (int what = 0; what <= 4; what++) {
+            C.due("edge(7, 6, " + what + ")", y.edge(7, 6, what), downward[what]);
+        }
         // A twin has the corners, but no EDGE.
         x.plane(0, 0, 2, 40);
         int[] twin = {0, 0, 0, 0, 2};
@@ -431,6 +467,18 @@ public final class PromisesTest {
         refuses(x, -2, 0, v -> x.reach(v, 0, 0), LEAST, -4, 0, 4, MOST);
         refuses(x, -2, 0, v -> x.reach(0, v, 0), LEAST, -4, 0, 4, MOST);
         refuses(x, -2, 0, v -> x.reach(0, 0, v), LEAST, -4, 0, 4, MOST);
+        // Upright: (20, -20), (20, -10), (90/7, 80/7), (0, 20), (-20, 20), (-20, -20).
+        CrystalCuts y = new CrystalCuts();
+        y.plane(3, 1, 0, 50);
+        y.plane(2, 3, 0, 60);
+        C.due("reach(2, 2, 0)", y.reach(2, 2, 0), 2);
+        fraction(y, 340, 7);
+        C.due("reach(1, 3, 0)", y.reach(1, 3, 0), 2);
+        fraction(y, 60, 1);
+        C.due("reach(3, 0, 0)", y.reach(3, 0, 0), 4);
+        fraction(y, 60, 1);
+        C.due("reach(3, 1, 0)", y.reach(3, 1, 0), 4);
+        fraction(y, 50, 1);
         C.due("32 planes", full().reach(1, 2, 3) > 0 ? 1 : 0, 1);
     }
 
