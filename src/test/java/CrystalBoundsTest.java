@@ -82,6 +82,42 @@ public final class CrystalBoundsTest {
         C.due("with a plane of the BOX", y.meets(0, 0), 9);
     }
 
+    /** One plane or one corner alone has the most: the first, the last, each between. */
+    private static void p10OneAloneHasTheMost() {
+        C.promise(10, "the most CORNERS ON a PLANE that SHOWS (5), the most PLANES that SHOW ON a CORNER (6)");
+        for (int p = 0; p < 6; p++) {
+            CrystalCuts x = new CrystalCuts();
+            int side = p % 2 == 0 ? 1 : -1;
+            for (int i = 0; i < 4; i++) {
+                int one = i < 2 ? 1 : -1;
+                int two = i % 2 == 0 ? 1 : -1;
+                x.plane(p / 2 == 0 ? side : one, p / 2 == 1 ? side : p / 2 == 0 ? one : two, p / 2 == 2 ? side : two, 50);
+            }
+            C.due("all(5), four corners of " + p + " cut off", x.all(5), 8);
+            C.due("of(" + p + ", 5)", x.of(p, 5), 8);
+        }
+        for (int side : new int[] {-1, 1}) {
+            CrystalCuts x = roofed(side, 15);
+            C.due("four planes at the peak alone, all(6), side " + side, x.all(6), 4);
+            C.due("all(3), side " + side, x.all(3), 13);
+            C.due("the peak, side " + side, x.meets(side < 0 ? 0 : 12, 0), 5);
+        }
+    }
+
+    /** A box with a roof of four planes whose peak is at x 30 of one side; it ends at x 10 of the other. */
+    private static CrystalCuts roofed(int side, int y) {
+        CrystalCuts x = new CrystalCuts();
+        x.off(side < 0 ? 1 : 0, 30);
+        x.off(side < 0 ? 0 : 1, 10);
+        x.off(2, y);
+        x.off(3, y);
+        x.plane(side, 1, 0, 30);
+        x.plane(side, -1, 0, 30);
+        x.plane(side, 0, 1, 30);
+        x.plane(side, 0, -1, 30);
+        return x;
+    }
+
     private static void p10Bad() {
         C.promise(10, "BAD.");
         for (Start start : Start.values()) {
@@ -333,6 +369,22 @@ public final class CrystalBoundsTest {
         S.setsFraction(Start.FULL, 3, new long[] {43, 1}, "reach(3, 2, 1)", x -> x.reach(3, 2, 1));
     }
 
+    private static void p15EachCornerAlone() {
+        C.promise(15, "how many CORNERS have it");
+        for (int j = 0; j < 8; j++) {
+            int h = (j & 4) == 0 ? -1 : 1;
+            int k = (j & 2) == 0 ? -1 : 1;
+            int l = (j & 1) == 0 ? -1 : 1;
+            S.setsFraction(Start.NEW, 1, new long[] {60, 1}, "reach of corner " + j, x -> x.reach(h, k, l));
+            // Nearer by a third of one there, so that the farthest is a fraction.
+            CrystalCuts x = new CrystalCuts();
+            x.plane(3 * h, 3 * k, 3 * l, 59);
+            C.due("reach cut at " + j, x.reach(h, k, l), 6);
+            C.due("part(0) cut at " + j, x.part(0), 59);
+            C.due("part(1) cut at " + j, x.part(1), 3);
+        }
+    }
+
     private static void p15FarthestAndNearest() {
         C.promise(15, "(how far OFF a PLANE of that SIGN would just touch)");
         CrystalCuts far = boxOf(60);
@@ -382,6 +434,20 @@ public final class CrystalBoundsTest {
             for (int turn = 0; turn <= 5; turn++) {
                 C.due("family(" + set + ", ..), stays(" + turn + ")", x.stays(turn), o.stays(turn));
             }
+        }
+    }
+
+    /** All corners but one come to corners: the first, or the last. */
+    private static void p16OneCornerAlone() {
+        C.promise(16, "stays as it is");
+        for (int side : new int[] {-1, 1}) {
+            CrystalCuts x = roofed(side, 20);
+            C.due("all(3), side " + side, x.all(3), 9);
+            // Turns 0, 1 and 2 take each corner to a corner but the peak, which would come to the other side.
+            for (int turn = 0; turn <= 5; turn++) {
+                C.due("side " + side + ", stays(" + turn + ")", x.stays(turn), 0);
+            }
+            C.due("side " + side + ", symmetry()", x.symmetry(), 0);
         }
     }
 

@@ -656,6 +656,10 @@ public final class TextBoundsTest {
             sum = mix(sum, x.all(1), x.all(3), x.all(4), x.part(0), x.part(1));
             CrystalCuts y = start.make();
             for (int j = 0; j < start.corners; j++) {
+                if (j % 30 == 29) {
+                    // What an object answers behind its 512th call is free.
+                    y = start.make();
+                }
                 for (int a = 0; a < 3; a++) {
                     y.corner(j, a);
                     sum = mix(sum, y.part(0), y.part(1));
