@@ -55,6 +55,11 @@ final class Checks {
         begin("What it is", "## What it is", words);
     }
 
+    /** What follows looks at these words of the document's public face. */
+    void face(String words) {
+        begin("The public face", "## The public face", words);
+    }
+
     private void begin(String section, String head, String words) {
         endHeading();
         heading = section + " \"" + words + "\": ";
@@ -71,18 +76,23 @@ final class Checks {
         heading = "";
     }
 
-    private static String sectionOf(String head) {
+    /** The whole document; empty, if it can not be read. */
+    static String document() {
         try {
-            String text = "\n" + Files.readString(DOCUMENT);
-            int from = text.indexOf("\n" + head);
-            if (from < 0) {
-                return "";
-            }
-            int to = text.indexOf("\n## ", from + 1);
-            return squeezed(text.substring(from, to < 0 ? text.length() : to));
+            return Files.readString(DOCUMENT);
         } catch (IOException e) {
             return "";
         }
+    }
+
+    private static String sectionOf(String head) {
+        String text = "\n" + document();
+        int from = text.indexOf("\n" + head);
+        if (from < 0) {
+            return "";
+        }
+        int to = text.indexOf("\n## ", from + 1);
+        return squeezed(text.substring(from, to < 0 ? text.length() : to));
     }
 
     private static String squeezed(String s) {

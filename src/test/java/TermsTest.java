@@ -75,7 +75,7 @@ public final class TermsTest {
     }
 
     private static void t04Offs() {
-        C.terms("OFF (1 .. 60)");
+        C.terms("and OFF (1 .. 60)");
         for (int v = -2; v <= 63; v++) {
             CrystalCuts x = new CrystalCuts();
             boolean is = v >= 1 && v <= 60;
@@ -328,7 +328,7 @@ public final class TermsTest {
     }
 
     private static void t14EachTurn() {
-        C.terms("0 through the middle (-h, -k, -l), 1 mirror (-h, k, l), 2 half turn (-h, -k, l), 3 quarter turn (-k, h, l), 4 third turn (l, h, k), 5 mirror (k, h, l)");
+        C.terms("TURNS: 0 through the middle (-h, -k, -l), 1 mirror (-h, k, l), 2 half turn (-h, -k, l), 3 quarter turn (-k, h, l), 4 third turn (l, h, k), 5 mirror (k, h, l)");
         int[] sizes = {2, 2, 2, 4, 3, 2};
         CrystalCuts x = new CrystalCuts();
         for (int turn = 0; turn <= 5; turn++) {
@@ -356,7 +356,7 @@ public final class TermsTest {
     }
 
     private static void t16FamilyAsOftenAsMayBe() {
-        C.terms("all SIGNS that come of it by TURNS of the set, one after the other, as often as may be; in order by h, then k, then l");
+        C.terms("FAMILY of a SIGN by a set: all SIGNS that come of it by TURNS of the set, one after the other, as often as may be; in order by h, then k, then l");
         for (int set = 0; set <= 63; set++) {
             for (int[] s : new int[][] {{1, 2, 3}, {-3, 0, 2}, {0, 0, -1}, {3, 3, -3}, {1, 1, 0}}) {
                 TreeSet<Integer> due = closure(set, s);

@@ -495,7 +495,7 @@ public final class TextBoundsTest {
     }
 
     private static void p23PlanesAlone() {
-        C.terms("each call told S leaves one to go back to (PLANES alone)");
+        C.terms("STATES: each call told S leaves one to go back to (PLANES alone)");
         CrystalCuts x = Start.USED.make();
         x.plane(1, 0, 0, 7);
         x.type(' ');
